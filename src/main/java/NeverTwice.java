@@ -39,6 +39,7 @@ public final class NeverTwice {
     private static final int MOST_WAYS = 1458;
 
     private static final int MARK_BITS = 20;
+    private static final int ALL_OF_MARK = (1 << MARK_BITS) - 1;
 
     private static final int TEXTS = 0;
     private static final int WAYS = 1;
@@ -98,7 +99,7 @@ public final class NeverTwice {
     }
 
     private void settleTown(int found) {
-        workCount = found < MOST_WORKS ? found : MOST_WORKS;
+        workCount = Math.min(found, MOST_WORKS);
         for (int i = 0; i < workCount; i++) {
             Plan old = works[i].plan;
             works[i].plan = spare[i];
@@ -380,15 +381,10 @@ public final class NeverTwice {
         for (int way = 0; way < condemned.length; way++) {
             condemned[way] = false;
         }
+        int unspent = asked.count;
         for (int i = 0; i < ledger.booked; i++) {
             if (ledger.bookWork(i) == work) {
-                asked.setSame(condemned, law, number, ledger.bookWay(i), 0);
-            }
-        }
-        int unspent = 0;
-        for (int way = 0; way < asked.count && way < condemned.length; way++) {
-            if (!condemned[way]) {
-                unspent++;
+                unspent -= asked.setSame(condemned, law, number, ledger.bookWay(i), 0);
             }
         }
         return unspent;
@@ -607,10 +603,7 @@ public final class NeverTwice {
             return true;
         }
 
-        int costOfChoice(int mark) {
-            return greaterCosts(this, mark);
-        }
-
+        /** What the parts of a mark cost, each by the greater cost of both plans. */
         int greaterCosts(Plan other, int mark) {
             int cost = 0;
             for (int part = 0; part < items; part++) {
@@ -948,7 +941,7 @@ public final class NeverTwice {
         private void choose() {
             for (int mark = 0; mark < 1 << plan.items && mark < 1 << MOST_PARTS; mark++) {
                 if (plan.isChoice(mark)) {
-                    addWay(mark, plan.costOfChoice(mark));
+                    addWay(mark, plan.greaterCosts(plan, mark));
                 }
             }
         }
@@ -1001,7 +994,7 @@ public final class NeverTwice {
         }
 
         int markOf(int way) {
-            return has(way) ? (int) keys[way] & (1 << MARK_BITS) - 1 : 0;
+            return has(way) ? (int) keys[way] & ALL_OF_MARK : 0;
         }
 
         boolean isSpent(int way) {
@@ -1057,27 +1050,30 @@ public final class NeverTwice {
             return Integer.bitCount((mark ^ other) & bitsThatCount(plan.law)) < unlikeOnes(plan.law, plan.otherBy);
         }
 
-        /** Sets in a row those, from one on, that are the same by a law as a way. */
-        void setSame(boolean[] row, int law, int number, int way, int from) {
+        /** Sets in a row those, from one on, that are the same by a law as a way: how many are set newly. */
+        int setSame(boolean[] row, int law, int number, int way, int from) {
             if (!has(way) || way >= row.length || from < 0) {
-                return;
+                return 0;
             }
+            int found = row[way] ? 0 : 1;
             row[way] = true;
-            if (law == ROW) {
-                return;
-            }
-            int mark = markOf(way);
             int bits = bitsThatCount(law);
             int unlike = unlikeOnes(law, number);
-            for (int i = from; i < count && i < row.length; i++) {
-                if (Integer.bitCount((mark ^ markOf(i)) & bits) < unlike) {
+            if (bits == ALL_OF_MARK && unlike == 1) {
+                return found;
+            }
+            int mark = markOf(way);
+            for (int i = from; i < count && i < row.length && i < keys.length; i++) {
+                if (!row[i] && Integer.bitCount(((int) keys[i] ^ mark) & bits) < unlike) {
                     row[i] = true;
+                    found++;
                 }
             }
+            return found;
         }
 
         private int bitsThatCount(int law) {
-            return law == STEPS ? ~loose : ~0;
+            return law == STEPS ? ALL_OF_MARK & ~loose : ALL_OF_MARK;
         }
 
         /** By fewer bits unlike than these two ways are the same by a law. */
@@ -1093,13 +1089,7 @@ public final class NeverTwice {
         }
 
         void spendLike(int way) {
-            setSame(spent, plan.law, plan.otherBy, way, 0);
-            unspent = 0;
-            for (int i = 0; i < count; i++) {
-                if (!isSpent(i)) {
-                    unspent++;
-                }
-            }
+            unspent -= setSame(spent, plan.law, plan.otherBy, way, 0);
         }
 
         /** The mark of the cheapest choice of two sets that is left in both. */
@@ -1107,10 +1097,13 @@ public final class NeverTwice {
             int best = NONE;
             int bestCost = 0;
             for (int way = 0; way < count; way++) {
+                if (isSpent(way)) {
+                    continue;
+                }
                 int mark = markOf(way);
                 int cost = plan.greaterCosts(other.plan, mark);
                 boolean better = best == NONE || cost < bestCost || cost == bestCost && mark < best;
-                if (better && !isSpent(way) && !other.isSpent(other.withMark(mark))) {
+                if (better && !other.isSpent(other.withMark(mark))) {
                     best = mark;
                     bestCost = cost;
                 }

@@ -144,6 +144,14 @@ public final class BookTest {
         Check.due("by other 5", x.court(0, 2, 5), 0);
         Check.due("the law stays", x.work(0, 2), 1);
         Check.due("as does what is left", x.work(0, 5), 2);
+        NeverTwice y = Check.town("net 3;" + FOUR);
+        y.done(0, 1);
+        Check.due("by row a dearer one", y.court(0, 0, 0), 3);
+        // ways 0 to 3 are 5, 6, 9, 10 by their marks; 6 is as 10 by steps, and other than 5 by 2
+        Check.due("by steps a dearer one", y.court(0, 1, 0), 2);
+        Check.due("by other 3 a dearer one", y.court(0, 2, 3), 1);
+        y.done(0, 0);
+        Check.due("by steps both", y.court(0, 1, 0), 0);
         Check.due("another work", x.court(1, 2, 9), 6);
         x.done(1, 0);
         Check.due("all by its own law", x.court(1, 2, 9), 0);

@@ -67,6 +67,10 @@ public final class PeopleTest {
         settled(y, 0, 7, 1, 2, 4);
         y.person(0, 0);
         settled(y, 0, 7, 1, 2, 4);
+        NeverTwice v = Check.town("set 1;" + FIVE);
+        v.done(0, 1);
+        v.person(0, 3);
+        settled(v, 0, 2, 1, 1, 3);
         NeverTwice z = Check.town("set 1;part 3;");
         z.person(0, 5);
         settled(z, 0, 2, 1, 3, 5);

@@ -9,6 +9,8 @@ public final class TextTest {
         faultsOfOrders();
         tooMany();
         whatStays();
+        worksStay();
+        anew();
         Check.end();
     }
 
@@ -57,6 +59,13 @@ public final class TextTest {
         Check.fault("net -2;", 1, 4);
         Check.fault("ne t 2;", 1, 0);
         Check.fault("nets 2;", 1, 0);
+        Check.fault("orderz;", 1, 0);
+        Check.fault("ordera;", 1, 0);
+        Check.fault("order;a`", 1, 6);
+        Check.fault("order;`", 1, 6);
+        Check.fault("order;{", 1, 6);
+        Check.fault("order;act 1/", 1, 11);
+        Check.fault("order;act 1:", 1, 11);
         Check.fault(" order same steps other 2;", 1, 18);
         Check.fault(";", 1, 0);
         Check.fault("7", 1, 0);
@@ -79,6 +88,7 @@ public final class TextTest {
         Check.fault("net 3 same;", 1, 10);
         Check.fault("net 3 same other;", 1, 16);
         Check.fault("net 3 same other 0;", 2, 17);
+        Check.fault("net 3 same other 1;", 0, -1);
         Check.fault("net 3 same other 9;", 0, -1);
         Check.fault("net 3 same other 10;", 2, 17);
         Check.fault("net 3 same other 10000;", 2, 17);
@@ -164,6 +174,54 @@ public final class TextTest {
         Check.fault(works + "set", 2, works.length());
         Check.fault(works + " order;", 2, works.length() + 1);
         Check.fault(works + "part", 1, works.length());
+    }
+
+    /** A faulty text, however far it comes, leaves the works as they are. */
+    private static void worksStay() {
+        NeverTwice x = Check.town("set 1 same steps;part 3 free;part 4 free;part 5;order;act 1;act 2;");
+        x.done(0, 1);
+        String[] faulty = {"net 5 same other 4;step 0 1 9;set 3;part 1 free;part 2 free;part 3 free;both 0 1;!",
+            "order;act 7;act 8;ahead 0 1;order same steps;act 3 free;act", "set 0;set 0;set 0;set 0;set 0;set 0;set 0;"};
+        for (String text : faulty) {
+            Check.due("a fault", Check.read(x, text) != 0, true);
+            int[] set = {1, 3, 1, 0, 3, 1, 1, 3};
+            int[] order = {2, 2, 0, 0, 2, 2, 0, 0};
+            for (int what = 0; what < 8; what++) {
+                Check.due("work(0, " + what + ")", x.work(0, what), set[what]);
+                Check.due("work(1, " + what + ")", x.work(1, what), order[what]);
+            }
+            Check.due("way(0, 2, 0)", x.way(0, 2, 0), 5);
+            Check.due("same(0, 0, 1, 1)", x.same(0, 0, 1, 1), 1);
+            Check.due("count(0)", x.count(0), 2);
+        }
+    }
+
+    /** All anew: nothing of an earlier town, be it two towns ago, is in a later one. */
+    private static void anew() {
+        String bonds = "set 3 same other 9;part 1 free;part 2 free;part 3 free;part 4 free;"
+                + Check.times(4, "both 0 1;needs 2 3;needs 1 0;");
+        String net = "net 3 same steps;step 0 1 5 free;step 1 2 6 free;step 0 2 7;";
+        NeverTwice x = Check.town(bonds);
+        for (int i = 0; i < 5; i++) {
+            Check.due("a town", Check.read(x, i < 3 ? bonds : net), 0);
+        }
+        Check.due("a town", Check.read(x, "set 2;part 1;part 2;part 3;"), 0);
+        Check.due("ways", x.work(0, 1), 3);
+        Check.due("law", x.work(0, 2), 0);
+        Check.due("number of other", x.work(0, 3), 0);
+        Check.due("parts", x.work(0, 4), 3);
+        Check.due("free", x.work(0, 7), 0);
+        Check.due("same", x.same(0, 0, 1, 1), 0);
+        for (int i = 0; i < 3; i++) {
+            Check.due("a town", Check.read(x, bonds), 0);
+        }
+        Check.due("a town", Check.read(x, "order;act 1;act 2;act 3;"), 0);
+        Check.due("a town", Check.read(x, "order;act 1;act 2;act 3;"), 0);
+        Check.due("ways", x.work(0, 1), 6);
+        Check.due("a town", Check.read(x, "order;order;set 0;"), 0);
+        Check.due("a town", Check.read(x, "net 2;"), 0);
+        Check.due("works", x.count(0), 1);
+        Check.noSuch("work(1, 0)", () -> x.work(1, 0));
     }
 
     private static void whatStays() {

@@ -93,6 +93,16 @@ public final class WaysTest {
         Check.due("the last way of the set", x.way(1, 923, 1), 0xfc0);
         Check.due("the cost of the order", x.way(2, 719, 0), 20979);
         Check.due("the last way of the order", x.way(2, 719, 1), 32767);
+        for (int way = 0; way < 1458; way++) {
+            int mark = x.way(0, way, 1);
+            int cost = mark >> 19 == 1 ? 9 : 0;
+            for (int step = 0; step < 18; step++) {
+                cost += (mark >> step & 1) * (step % 3);
+            }
+            Check.due("cost of way " + way, x.way(0, way, 0), cost);
+            Check.due("steps of way " + way, Integer.bitCount(mark), 7);
+            Check.due("way of mark " + mark, x.find(0, mark), way);
+        }
         for (int work = 0; work < 3; work++) {
             for (int way = 1; way < x.work(work, 1); way++) {
                 int cost = x.way(work, way, 0) - x.way(work, way - 1, 0);
@@ -127,6 +137,14 @@ public final class WaysTest {
                 Check.due("same order " + i + ", " + j, x.same(3, i, j, 1), like ? 1 : 0);
             }
         }
+        NeverTwice y = Check.town("order same steps;act 0;act 0;act 0 free;");
+        // marks 0 1 3 4 6 7: only bit 0 counts
+        int[] counts = {0, 1, 1, 0, 0, 1};
+        for (int i = 0; i < 6; i++) {
+            for (int j = 0; j < 6; j++) {
+                Check.due("same order " + i + ", " + j, y.same(0, i, j, 1), counts[i] == counts[j] ? 1 : 0);
+            }
+        }
         Check.due("same set", x.same(4, x.find(4, 5), x.find(4, 6), 1), 1);
         Check.due("not the same set", x.same(4, x.find(4, 3), x.find(4, 6), 1), 0);
     }
@@ -143,6 +161,9 @@ public final class WaysTest {
         Check.noSuch("way(0, 0, 4)", () -> x.way(0, 0, 4));
         Check.noSuch("way(0, 0, -1)", () -> x.way(0, 0, -1));
         Check.noSuch("find(1, 0)", () -> x.find(1, 0));
+        NeverTwice y = Check.town("set 1;part 1;net 2;");
+        Check.due("no way has the mark 0", y.find(0, 0), -1);
+        Check.due("no way has the mark 0", y.find(1, 0), -1);
         Check.due("find(0, -1)", x.find(0, -1), -1);
         Check.due("find(0, 2)", x.find(0, 2), -1);
         Check.due("find(0, 1 << 20)", x.find(0, 1 << 20), -1);

@@ -43,6 +43,8 @@ public final class YearsTest {
         Check.due("years(0, 2, 0)", x.years(0, 2, 0), 7 + 4);
         Check.due("years(0, 3, 0)", x.years(0, 3, 0), 7 + 6 + 8);
         Check.due("years(0, 3, 1)", x.years(0, 3, 1), 14 + 12 + 16 - 21);
+        Check.due("years(0, 5, 0)", x.years(0, 5, 0), 7 + 6 + 8 + 8 + 16);
+        Check.due("years(0, 5, 1)", x.years(0, 5, 1), -1);
         NeverTwice y = Check.town("set 1;" + FIVE);
         y.done(0, 1);
         Check.due("years(0, 2, 0) behind done", y.years(0, 2, 0), 1 + 4);
@@ -120,6 +122,29 @@ public final class YearsTest {
         x.done(0, 0);
         Check.due("chance(0, 1000, 2) behind done", x.chance(0, 1000, 2), 6000);
         cutDown();
+        cutDownOnce();
+    }
+
+    /** The sums just below and at a whole thousandth. */
+    private static void cutDownOnce() {
+        int edges = 0;
+        for (int cost = 1; cost <= 999; cost += 38) {
+            NeverTwice x = Check.town("set 1 same other 9;part " + cost + ";part 999;");
+            for (int chance = 1; chance < 1000; chance++) {
+                long stays = 1000000000;
+                long all = 0;
+                for (int year = 1; year <= 100; year++) {
+                    long goes = stays * chance / 1000;
+                    stays -= goes;
+                    all += goes * cost;
+                    if (all % 1000000 == 999999 || year > 1 && all % 1000000 == 0 && all % 3 == 0) {
+                        edges++;
+                        Check.due("chance(0, " + chance + ", " + year + ")", x.chance(0, chance, year), all / 1000000);
+                    }
+                }
+            }
+        }
+        Check.due("there are such sums", edges > 0, true);
     }
 
     /** Shares are cut down at each going over: 333 of 1000 nine times of a billion leaves a rest. */
