@@ -47,13 +47,17 @@ public final class ChoosingTest {
         spread(x, 0, 3, 1, 3, 1);
         spread(x, 1, 1, 14, 14 * 42, 16383);
         // the last marks are those with most bits: the 14 cheapest are the first ones of like cost
+        int[] marks = new int[14];
+        for (int i = 0; i < 14; i++) {
+            marks[i] = x.way(1, i, 1);
+        }
         int most = 0;
         for (int bits = 0; bits < 1 << 14; bits++) {
             boolean fits = true;
             for (int i = 0; i < 14; i++) {
                 for (int j = 0; j < i; j++) {
                     boolean both = (bits >> i & 1) != 0 && (bits >> j & 1) != 0;
-                    fits &= !both || Integer.bitCount(x.way(1, i, 1) ^ x.way(1, j, 1)) >= 3;
+                    fits &= !both || Integer.bitCount(marks[i] ^ marks[j]) >= 3;
                 }
             }
             most = fits ? Math.max(most, Integer.bitCount(bits)) : most;

@@ -19,7 +19,6 @@ public final class RoomTest {
         System.out.println("an object is made of " + seen.size() + " parts with " + elements + " fields and elements");
         Check.due("parts of an object are few", seen.size() <= 300, true);
         Check.due("fields and elements of an object are few", elements <= 40000, true);
-        NeverTwice x = new NeverTwice();
         int[] text = new int[175];
         String town = NET + NET + SET + SET + "order same other 3;" + Check.times(6, "act1;");
         Check.due("the text fits", town.length() <= 700, true);
@@ -27,18 +26,23 @@ public final class RoomTest {
         for (int i = 0; i < 175; i++) {
             text[i] = Check.number(town, 4 * i);
         }
+        // three rounds of an object, of which no more than 512 calls are promised
+        NeverTwice[] objects = new NeverTwice[14];
+        for (int i = 0; i < objects.length; i++) {
+            objects[i] = new NeverTwice();
+        }
         for (int i = 0; i < 30; i++) {
-            all(x, text);
+            all(objects[i / 3], text);
         }
         com.sun.management.ThreadMXBean bean = (com.sun.management.ThreadMXBean) ManagementFactory.getThreadMXBean();
         long id = Thread.currentThread().getId();
         long before = bean.getThreadAllocatedBytes(id);
-        for (int i = 0; i < 10; i++) {
-            all(x, text);
+        for (int i = 30; i < 42; i++) {
+            all(objects[i / 3], text);
         }
         long made = bean.getThreadAllocatedBytes(id) - before;
-        System.out.println("ten rounds of all calls made " + made + " bytes");
-        Check.due("ten rounds of all calls make as good as nothing", made < 10000, true);
+        System.out.println("twelve rounds of all calls made " + made + " bytes");
+        Check.due("twelve rounds of all calls make as good as nothing", made < 10000, true);
         Check.end();
     }
 

@@ -129,8 +129,14 @@ public final class YearsTest {
     private static void cutDownOnce() {
         int edges = 0;
         for (int cost = 1; cost <= 999; cost += 38) {
-            NeverTwice x = Check.town("set 1 same other 9;part " + cost + ";part 999;");
+            String text = "set 1 same other 9;part " + cost + ";part 999;";
+            NeverTwice x = Check.town(text);
+            int made = 0;
             for (int chance = 1; chance < 1000; chance++) {
+                if (made > 300) {
+                    x = Check.town(text);
+                    made = 0;
+                }
                 long stays = 1000000000;
                 long all = 0;
                 for (int year = 1; year <= 100; year++) {
@@ -139,6 +145,7 @@ public final class YearsTest {
                     all += goes * cost;
                     if (all % 1000000 == 999999 || year > 1 && all % 1000000 == 0 && all % 3 == 0) {
                         edges++;
+                        made++;
                         Check.due("chance(0, " + chance + ", " + year + ")", x.chance(0, chance, year), all / 1000000);
                     }
                 }
