@@ -127,6 +127,15 @@ public final class EdgesOfBookTest {
             Edge.is(x.done(0, 502), true);
             Edge.is(x.count(4), 0);
         });
+        Edge.edge(10, "what a full book refuses leaves all else as it was; a spent one is refused once then, too", x -> {
+            Edge.town(x, Edge.times(4, MANY));
+            Edge.is(x.drawn(100, 1000, 1, 1), 400);
+            Edge.staysBut(x, 4, 3, () -> {
+                Edge.is(x.done(0, 0), false);
+                Edge.is(x.done(0, 100), false);
+                Edge.is(x.done(3, 923), false);
+            });
+        });
         Edge.edge(10, "behind a town the full book has room again", x -> {
             Edge.town(x, Edge.times(4, MANY));
             Edge.is(x.drawn(100, 1000, 1, 1), 400);

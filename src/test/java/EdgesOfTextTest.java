@@ -676,6 +676,15 @@ public final class EdgesOfTextTest {
             Edge.good(both);
             Edge.fault(both + "ahead", 2, both.length());
         });
+        Edge.edge(3, "what a work has at most is counted anew in the next text, and in the one behind that", x -> {
+            String[] texts = {"net 2;" + Edge.times(20, STEP), "set 1;" + Edge.times(12, PART) + Edge.times(12, "both 0 1;"),
+                "order;" + Edge.times(6, ACT) + Edge.times(12, "ahead 0 1;"), Edge.times(6, "order;")};
+            for (String text : texts) {
+                for (int i = 0; i < 4; i++) {
+                    Edge.town(x, text);
+                }
+            }
+        });
         Edge.edge(3, "what a faulty text told ahead of its fault is not counted in the next one", x -> {
             Edge.feed(x, "net 2;" + Edge.times(20, STEP) + "!");
             Edge.is(x.town(207), 1);

@@ -9,7 +9,9 @@ public final class EdgesOfWaysTest {
 
     public static void main(String[] args) {
         newObject();
+        manyCalls();
         counts();
+        most();
         works();
         ways();
         nets();
@@ -98,6 +100,29 @@ public final class EdgesOfWaysTest {
         });
     }
 
+    private static void manyCalls() {
+        Edge.edge(1, "of 512 calls the 512th answers, be all of them of one kind, and throws where it is due", x -> {
+            Edge.town(x, "order;act 1;act 2;");
+            while (x.calls() < Counted.MOST_CALLS) {
+                Edge.is(x.count(0), 1);
+            }
+            Counted y = Edge.fresh("order;act 1;act 2;");
+            while (y.calls() < Counted.MOST_CALLS - 1) {
+                Edge.is(y.weight(99, y.calls() % 100), true);
+            }
+            Edge.noSuch(() -> y.work(1, 0));
+        });
+        Edge.edge(1, "of 512 calls all may be texts, the 512th one too", x -> {
+            while (x.calls() < Counted.MOST_CALLS - 3) {
+                Edge.is(x.feed(0x6f726465, 0x723b2020, 0x20202020, 0x20202020, 0x20202020), 20);
+                Edge.is(x.town(20), 0);
+            }
+            while (x.calls() < Counted.MOST_CALLS) {
+                Edge.is(x.work(0, 1), 1);
+            }
+        });
+    }
+
     private static void counts() {
         Edge.edge(5, "what is 0 to 6; -1 and 7 are none", x -> {
             Edge.town(x, "order;");
@@ -129,6 +154,52 @@ public final class EdgesOfWaysTest {
             int[] due = {3, 40, 2, 1, 2, 3, 3};
             for (int what = 0; what <= 6; what++) {
                 Edge.is(x.count(what), due[what]);
+            }
+        });
+    }
+
+    private static void most() {
+        Edge.edge(5, "the most that is counted: 6 works, 700 bytes, 400 of the book", x -> {
+            Edge.town(x, Edge.times(6, "set6;" + Edge.times(12, "part1;")));
+            Edge.is(x.count(0), 6);
+            Edge.is(x.drawn(100, 1000, 1, 1), 400);
+            Edge.is(x.count(2), 400);
+            Edge.is(x.done(0, 900), false);
+            Edge.is(x.count(2), 400);
+            Edge.feed(x, Edge.padded("", 700));
+            Edge.is(x.count(1), 700);
+            Edge.is(x.feed(0, 0, 0, 0, 0), -1);
+            Edge.is(x.count(1), 700);
+        });
+        Edge.edge(6, "the most of a work: 400 done of one, 100 marks, 12 people", x -> {
+            Edge.town(x, "order;set6;" + Edge.times(12, "part1;"));
+            x.done(0, 0);
+            for (int i = 1; i <= 101; i++) {
+                x.tell(1, i);
+            }
+            for (int i = 1; i <= 13; i++) {
+                x.person(1, i);
+            }
+            for (int i = 0; i < 4; i++) {
+                x.drawn(100, 1000, 1, 0);
+            }
+            int[] due = {1, 924, 0, 0, 12, 924 - 399, 399, 0, 100, 12};
+            for (int what = 0; what <= 9; what++) {
+                Edge.is(x.work(1, what), due[what]);
+            }
+            Edge.is(x.work(0, 6), 1);
+            Counted y = Edge.fresh("set6;" + Edge.times(12, "part1;"));
+            for (int i = 0; i < 5; i++) {
+                y.drawn(100, 1000, 1, 0);
+            }
+            Edge.is(y.work(0, 6), 400);
+            Edge.is(y.work(0, 5), 524);
+        });
+        Edge.edge(6, "the most of a work: 20 steps, 12 parts, 6 acts", x -> {
+            Edge.town(x, "net2;" + Edge.times(20, "step0 1 1;") + "set0;" + Edge.times(12, "part1;") + "order;" + Edge.times(6, "act1;"));
+            int[] due = {20, 12, 6};
+            for (int work = 0; work < 3; work++) {
+                Edge.is(x.work(work, 4), due[work]);
             }
         });
     }

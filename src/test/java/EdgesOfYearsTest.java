@@ -559,6 +559,15 @@ public final class EdgesOfYearsTest {
             x.restore();
             Edge.is(x.drawn(100, 1000, 1, 2), 596);
         });
+        Edge.edge(26, "all costs of the most that can be done in one call", x -> {
+            Edge.town(x, Edge.times(6, "order;" + Edge.times(6, "act 999;")));
+            x.image();
+            Edge.is(x.drawn(100, 1000, 1, 0), 400 * 20979);
+            x.restore();
+            Edge.is(x.drawn(100, 1000, 1, 1), 400);
+            x.restore();
+            Edge.is(x.drawn(100, 1000, 1, 2), 200);
+        });
         Edge.edge(26, "all that are the same as what was drawn are spent", x -> {
             Edge.town(x, "set 1 same other 9;part 1;part 2;set 1 same steps;part 1 free;part 2 free;part 3;");
             Edge.is(x.drawn(1, 1000, 1, 0), 2);
